@@ -296,7 +296,7 @@ public final class QuadPictures {
         int count = 0;
         for (int x = low / SIDE; x <= high / SIDE; x++) {
             for (int y = low % SIDE; y <= high % SIDE; y++) {
-                if (isSet(p, x, y)) {
+                if (points[POINTS * p + SIDE * x + y]) {
                     count++;
                 }
             }

@@ -160,6 +160,8 @@ public final class PromisesTest {
         x.paint(1, 18, 18, 0);
         expect(x, 0, 18, 255);
         expect(x, 1, 255);
+        due("with the corners", x.copy(1, 2), 0);
+        expect(x, 1, 0, 15, 240);
         QuadPictures y = marked();
         for (int bad : BAD_PICTURES) {
             due("p " + bad, y.copy(bad, 0), -1);
@@ -442,6 +444,8 @@ public final class PromisesTest {
         set(x, 2, 255);
         set(x, 0, 0);
         due("the same points", x.same(0, 2), 1);
+        x.paint(0, 0, 0, 0);
+        due("without the first point", x.same(0, 2), 0);
         badPairs(x, "same");
     }
 
@@ -534,6 +538,18 @@ public final class PromisesTest {
         x.paint(1, 16 * 4 + 4, 16 * 5 + 5, 1);
         due("an island in a ring", x.regions(1), 2);
         due("asked again", x.regions(1), 2);
+        x.paint(1, 0, 255, 0);
+        for (int edge : new int[] {0, 15, 240, 255}) {
+            int beside = edge % 16 == 0 ? edge + 1 : edge - 1;
+            set(x, 1, edge, beside);
+        }
+        due("pairs along the edges of y", x.regions(1), 4);
+        x.paint(1, 0, 255, 0);
+        for (int edge : new int[] {0, 15, 240, 255}) {
+            int beside = edge / 16 == 0 ? edge + 16 : edge - 16;
+            set(x, 1, edge, beside);
+        }
+        due("pairs along the edges of x", x.regions(1), 4);
         for (int p : BAD_PICTURES) {
             due("picture " + p, x.regions(p), -1);
         }
