@@ -5,8 +5,8 @@ import java.util.TreeSet;
 import java.util.function.IntUnaryOperator;
 
 /**
- * The document in its own words, over sets of point numbers 16 * x + y: slow, and written apart
- * from the program so that the two don't share a mistake.
+ * The document in its own words, over sets of point numbers 16 * x + y: slow, and made in other
+ * ways than the program, so that a slip in one shows. A misreading of the document could be in both.
  */
 final class Model {
     private static final int[] SIZES = {1, 2, 4, 8, 16};
